@@ -14,6 +14,7 @@ public final class RobustPacking {
     private static final int MOST_BUDGET = 12;
     private static final int MOST_DEVIATION = 999;
     private static final int MOST_PROFIT_ASKED = 12000;
+    private static final int ABOVE_ALL_PROFITS = 100000;
     private static final int MOST_CALLS_KEPT = 12;
     private static final int MOST_SIGNS = 80;
     private static final int MOST_ITEMS_READ = 20;
@@ -111,11 +112,9 @@ public final class RobustPacking {
     }
 
     public int conflict(int item, int other) {
-        if (!exists(item) || !exists(other)) {
-            return NO_SUCH;
-        }
-        if (item == other) {
-            return BAD_VALUE;
+        int error = pairError(item, other);
+        if (error != 0) {
+            return error;
         }
         remember();
         state.conflicts[item] ^= 1 << other;
@@ -124,11 +123,9 @@ public final class RobustPacking {
     }
 
     public int need(int item, int other) {
-        if (!exists(item) || !exists(other)) {
-            return NO_SUCH;
-        }
-        if (item == other) {
-            return BAD_VALUE;
+        int error = pairError(item, other);
+        if (error != 0) {
+            return error;
         }
         remember();
         state.needs[item] ^= 1 << other;
@@ -425,7 +422,7 @@ public final class RobustPacking {
         }
         prepare();
         recovery.collect(choices, state, items, r);
-        return recovery.profitIn(scenario, Integer.MAX_VALUE, choices.value, capacity());
+        return recovery.profitIn(scenario, ABOVE_ALL_PROFITS, choices.value, capacity());
     }
 
     public int adversary(int items, int r, int what) {
@@ -437,7 +434,7 @@ public final class RobustPacking {
         }
         prepare();
         recovery.collect(choices, state, items, r);
-        int least = Integer.MAX_VALUE;
+        int least = ABOVE_ALL_PROFITS;
         int worst = 0;
         // A scenario without a recovered profit ends the search: NONE is below 0, and none is worse.
         for (int scenario = 0; scenario <= items && least >= 0; scenario++) {
@@ -515,6 +512,14 @@ public final class RobustPacking {
 
     private boolean exists(int item) {
         return item >= 0 && item < state.size;
+    }
+
+    /** What is wrong with a pair of items for a condition, 0 if nothing is. */
+    private int pairError(int item, int other) {
+        if (!exists(item) || !exists(other)) {
+            return NO_SUCH;
+        }
+        return item == other ? BAD_VALUE : 0;
     }
 
     private boolean isChoice(int items) {

@@ -1,4 +1,5 @@
 import java.util.ArrayList;
+import java.util.Arrays;
 import java.util.List;
 import java.util.Random;
 import java.util.regex.Pattern;
@@ -55,6 +56,12 @@ public final class OracleTest {
         Saved now = new Saved();
         final List<Saved> history = new ArrayList<>();
         String pad = "";
+        /** Worst scenarios found since the last change, by property and budget: they are asked for again and again. */
+        int[][][] known = new int[4][13][];
+
+        void forget() {
+            known = new int[4][13][];
+        }
 
         int size() {
             return now.things.size();
@@ -69,6 +76,7 @@ public final class OracleTest {
         }
 
         void save() {
+            forget();
             history.add(now.copy());
             if (history.size() > 12) {
                 history.remove(0);
@@ -299,18 +307,32 @@ public final class OracleTest {
         }
 
         /** The worst scenario among all subsets of the choice, straight from its definition. */
-        int worst(int items, int property, int budget) {
+        int findWorst(int items, int property, int budget) {
             int worst = 0;
-            for (int scenario = 0; scenario <= items; scenario++) {
-                if ((scenario & ~items) != 0 || Integer.bitCount(scenario) > budget) {
+            int most = 0;
+            for (int scenario = items; scenario > 0; scenario = (scenario - 1) & items) {
+                if (Integer.bitCount(scenario) > budget) {
                     continue;
                 }
-                int gain = sum(scenario, property) - sum(worst, property);
-                if (gain > 0 || gain == 0 && Integer.bitCount(scenario) < Integer.bitCount(worst)) {
+                int gain = sum(scenario, property) - most;
+                int more = Integer.bitCount(scenario) - Integer.bitCount(worst);
+                if (gain > 0 || gain == 0 && (more < 0 || more == 0 && scenario < worst)) {
                     worst = scenario;
+                    most += gain;
                 }
             }
             return worst;
+        }
+
+        int worst(int items, int property, int budget) {
+            if (known[property][budget] == null) {
+                known[property][budget] = new int[1 << size()];
+                Arrays.fill(known[property][budget], -1);
+            }
+            if (known[property][budget][items] < 0) {
+                known[property][budget][items] = findWorst(items, property, budget);
+            }
+            return known[property][budget][items];
         }
 
         int guarded(int items, int g) {
@@ -503,12 +525,14 @@ public final class OracleTest {
             int increase = 0;
             while (property[2] < 999) {
                 property[2]++;
+                forget();
                 if (bestNow() != best) {
                     break;
                 }
                 increase++;
             }
             property[2] = first;
+            forget();
             return increase;
         }
 
@@ -578,30 +602,30 @@ public final class OracleTest {
             }
         }
 
-        boolean dominates(int a, int b) {
-            int gain = sum(a, 0) - sum(b, 0);
-            int weight = guarded(a, now.settings[1]) - guarded(b, now.settings[1]);
-            return gain >= 0 && weight <= 0 && (gain != 0 || weight != 0 || a < b);
+        /** A state of a level: a choice with its plain profit and its protected weight. */
+        int[] stateOf(int items) {
+            return new int[] {items, sum(items, 0), guarded(items, now.settings[1])};
         }
 
-        List<Integer> listOf(int level) {
-            List<Integer> fitting = new ArrayList<>();
+        static boolean dominates(int[] a, int[] b) {
+            boolean same = a[1] == b[1] && a[2] == b[2];
+            return a[1] >= b[1] && a[2] <= b[2] && (!same || a[0] < b[0]);
+        }
+
+        List<int[]> listOf(int level) {
+            List<int[]> fitting = new ArrayList<>();
             for (int items = 0; items < 1 << level; items++) {
                 if (guarded(items, now.settings[1]) <= now.settings[0]) {
-                    fitting.add(items);
+                    fitting.add(stateOf(items));
                 }
             }
-            List<Integer> list = new ArrayList<>();
-            for (int items : fitting) {
-                boolean dominated = false;
-                for (int other : fitting) {
-                    dominated |= dominates(other, items);
-                }
-                if (!dominated) {
-                    list.add(items);
+            List<int[]> list = new ArrayList<>();
+            for (int[] state : fitting) {
+                if (fitting.stream().noneMatch(other -> dominates(other, state))) {
+                    list.add(state);
                 }
             }
-            list.sort((a, b) -> Integer.compare(guarded(a, now.settings[1]), guarded(b, now.settings[1])));
+            list.sort((a, b) -> Integer.compare(a[2], b[2]));
             return list;
         }
 
@@ -609,11 +633,11 @@ public final class OracleTest {
             if (level < 0 || level > size()) {
                 return NO_SUCH;
             }
-            List<Integer> list = listOf(level);
+            List<int[]> list = listOf(level);
             if (index == -1) {
                 return list.size();
             }
-            return index < 0 || index >= list.size() ? NONE : list.get(index);
+            return index < 0 || index >= list.size() ? NONE : list.get(index)[0];
         }
 
         int dominator(int level, int items) {
@@ -623,9 +647,9 @@ public final class OracleTest {
             if (guarded(items, now.settings[1]) > now.settings[0]) {
                 return NOT_POSSIBLE;
             }
-            for (int other : listOf(level)) {
-                if (other != items && dominates(other, items)) {
-                    return other;
+            for (int[] other : listOf(level)) {
+                if (dominates(other, stateOf(items))) {
+                    return other[0];
                 }
             }
             return NONE;
@@ -673,9 +697,9 @@ public final class OracleTest {
 
         int rescued(int items, int scenario, int r) {
             int greatest = NONE;
-            for (int rest = 0; rest <= items; rest++) {
-                if ((rest & ~items) == 0 && Integer.bitCount(items - rest) <= r
-                        && weightOf(rest, scenario) <= now.settings[0] && allowed(rest)) {
+            for (int gone = items; gone >= 0; gone = gone == 0 ? -1 : (gone - 1) & items) {
+                int rest = items - gone;
+                if (Integer.bitCount(gone) <= r && weightOf(rest, scenario) <= now.settings[0] && allowed(rest)) {
                     greatest = Math.max(greatest, sum(rest, 0));
                 }
             }
@@ -724,6 +748,7 @@ public final class OracleTest {
             if (history.isEmpty()) {
                 return NOT_POSSIBLE;
             }
+            forget();
             now = history.remove(history.size() - 1);
             return history.size();
         }
@@ -990,7 +1015,7 @@ public final class OracleTest {
                     a = anySet();
                     b = astray(up(4));
                     c = what(2);
-                    if (y.size() <= 9) {
+                    if (Integer.bitCount(a) <= 8) {
                         due("adversary(" + a + ", " + b + ", " + c + ")", x.adversary(a, b, c), y.adversary(a, b, c));
                     }
                     return;
@@ -1016,12 +1041,13 @@ public final class OracleTest {
     }
 
     public static void main(String[] args) {
-        runs(1500, 4, 5, 80);
-        runs(800, 12, 6, 80);
-        runs(300, 100, 6, 80);
-        runs(300, 999, 5, 80);
-        runs(20, 5, 8, 120);
-        runs(8, 999, 9, 100);
+        runs(700, 4, 5, 80);
+        runs(300, 12, 6, 80);
+        runs(150, 100, 6, 80);
+        runs(150, 999, 5, 80);
+        runs(12, 5, 9, 120);
+        runs(6, 999, 12, 120);
+        runs(6, 20, 15, 120);
         System.out.println(calls + " calls compared, " + wrong + " answers are not as due");
         if (wrong != 0) {
             System.exit(1);

@@ -1,0 +1,132 @@
+import java.io.IOException;
+import java.lang.reflect.Constructor;
+import java.lang.reflect.Field;
+import java.lang.reflect.Method;
+import java.lang.reflect.Modifier;
+import java.nio.charset.StandardCharsets;
+import java.nio.file.Files;
+import java.nio.file.Path;
+import java.util.ArrayList;
+import java.util.Arrays;
+import java.util.HashSet;
+import java.util.List;
+import java.util.Set;
+import java.util.TreeSet;
+import java.util.regex.Matcher;
+import java.util.regex.Pattern;
+
+/** The public face of the class, and the rules of LANGUAGE.md that can be seen in its code. */
+public final class FaceTest {
+    private static final String[] METHODS = {
+        "add(int,int,int,int)", "remove(int)", "set(int,int,int)", "item(int,int)", "conflict(int,int)", "need(int,int)",
+        "rule(int,int)", "put(long)", "wipe()", "fault()", "load()", "choice(int,int)", "weightIn(int,int)", "best(int)",
+        "bestWith(int,int,int)", "leastCapacity(int)", "headroom(int)", "greedy(int)", "forced(int,int,int)",
+        "frontier(int,int)", "improve(int,int)", "list(int,int)", "dominator(int,int)", "threshold(int)", "plain(int)",
+        "recovered(int,int,int)", "adversary(int,int,int)", "undo()", "count(int)"};
+    private static final String[] CONSTANTS = {
+        "NO_SUCH=-1", "BAD_VALUE=-2", "BAD_TEXT=-3", "TOO_MANY=-4", "NOT_POSSIBLE=-5", "NONE=-6", "SHIFT=100000",
+        "CAPACITY=0", "WEIGHT_BUDGET=1", "PROFIT_BUDGET=2", "PROFIT=0", "WEIGHT=1", "WEIGHT_DEVIATION=2",
+        "PROFIT_DEVIATION=3", "GROUP=4"};
+    private static final String[] BANNED = {"\\bthrow\\b", "\\bthrows\\b", "\\btry\\b", "\\bcatch\\b", "\\bsynchronized\\b",
+        "\\bassert\\b", "->", "::", "\\bhashCode\\b", "\\bimport\\b", "\\bpackage\\b", "Exact\\b", "\\bvar\\b", "MAX_VALUE", "MIN_VALUE", "\"", "\\bstatic\\s*\\{"};
+    private static final Set<String> NAMES = new HashSet<>();
+    private static int wrong = 0;
+
+    private static void check(boolean holds, String what) {
+        if (!holds) {
+            wrong++;
+            System.out.println("not so: " + what);
+        }
+    }
+
+    private static String signature(Method method) {
+        List<String> types = new ArrayList<>();
+        for (Class<?> type : method.getParameterTypes()) {
+            types.add(type.getName());
+        }
+        return method.getName() + "(" + String.join(",", types) + ")";
+    }
+
+    private static void checkMethods() {
+        Set<String> open = new TreeSet<>();
+        for (Method method : RobustPacking.class.getDeclaredMethods()) {
+            if (Modifier.isPrivate(method.getModifiers())) {
+                check(!NAMES.contains(method.getName()), "no private method is called " + method.getName());
+            } else {
+                check(Modifier.isPublic(method.getModifiers()) && method.getReturnType() == int.class
+                        && !Modifier.isStatic(method.getModifiers()), method.getName() + " is a public method that answers int");
+                open.add(signature(method));
+            }
+        }
+        check(open.equals(new TreeSet<>(Arrays.asList(METHODS))), "the methods are those of the document, not " + open);
+    }
+
+    private static void checkConstants() throws IllegalAccessException {
+        Set<String> open = new TreeSet<>();
+        for (Field field : RobustPacking.class.getDeclaredFields()) {
+            int kind = field.getModifiers();
+            check(!Modifier.isStatic(kind) || Modifier.isFinal(kind), field.getName() + " is no changing static field");
+            if (!Modifier.isPrivate(kind)) {
+                check(Modifier.isPublic(kind) && Modifier.isStatic(kind), field.getName() + " is a public constant");
+                open.add(field.getName() + "=" + field.getInt(null));
+            }
+        }
+        check(open.equals(new TreeSet<>(Arrays.asList(CONSTANTS))), "the constants are those of the document, not " + open);
+    }
+
+    private static void checkClasses() {
+        int kind = RobustPacking.class.getModifiers();
+        check(Modifier.isPublic(kind) && Modifier.isFinal(kind), "the class is public and final");
+        Constructor<?>[] constructors = RobustPacking.class.getDeclaredConstructors();
+        check(constructors.length == 1 && Modifier.isPublic(constructors[0].getModifiers())
+                && constructors[0].getParameterCount() == 0, "there is one constructor, public, without parameters");
+        Class<?>[] inside = RobustPacking.class.getDeclaredClasses();
+        check(inside.length <= 11, "there are at most twelve classes");
+        for (Class<?> nested : inside) {
+            check(Modifier.isStatic(nested.getModifiers()) && !Modifier.isPublic(nested.getModifiers()),
+                    nested.getSimpleName() + " is static and not public");
+            check(nested.getDeclaredFields().length <= 20, nested.getSimpleName() + " has at most twenty fields");
+            for (Method method : nested.getDeclaredMethods()) {
+                check(!NAMES.contains(method.getName()), "no method of " + nested.getSimpleName() + " is called " + method.getName());
+                check(method.getParameterCount() <= 7, method.getName() + " has at most seven parameters");
+            }
+        }
+    }
+
+    private static void checkSource() throws IOException {
+        byte[] bytes = Files.readAllBytes(Path.of("src/main/java/RobustPacking.java"));
+        for (byte sign : bytes) {
+            check(sign > 0, "the source is plain ASCII");
+        }
+        String source = new String(bytes, StandardCharsets.US_ASCII);
+        String code = source.replaceAll("(?s)/\\*.*?\\*/", "").replaceAll("//[^\n]*", "");
+        for (String banned : BANNED) {
+            Matcher matcher = Pattern.compile(banned).matcher(code);
+            check(!matcher.find(), "the code is without " + banned);
+        }
+        int start = -1;
+        String[] lines = source.split("\n");
+        for (int i = 0; i < lines.length; i++) {
+            if (lines[i].matches(" {4,8}\\S.*\\) \\{") || lines[i].matches(" {16}.*\\) \\{") && start < 0) {
+                start = i;
+            } else if (start >= 0 && lines[i].matches(" {4,8}\\}")) {
+                check(i - start <= 60, "the method at line " + (start + 1) + " is short");
+                start = -1;
+            }
+        }
+    }
+
+    public static void main(String[] args) throws Exception {
+        for (String method : METHODS) {
+            NAMES.add(method.substring(0, method.indexOf('(')));
+        }
+        checkMethods();
+        checkConstants();
+        checkClasses();
+        checkSource();
+        System.out.println(wrong == 0 ? "the face is as due" : wrong + " things are not as due");
+        if (wrong != 0) {
+            System.exit(1);
+        }
+    }
+}
