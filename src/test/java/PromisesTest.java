@@ -1,56 +1,5 @@
 /** The promises one by one: what is due was worked out by hand from the document. */
-public final class PromisesTest {
-    private static final int NO_SUCH = -1, BAD_VALUE = -2, BAD_TEXT = -3, TOO_MANY = -4, NOT_POSSIBLE = -5, NONE = -6;
-    private static final int LOW = Integer.MIN_VALUE;
-    private static final int HIGH = Integer.MAX_VALUE;
-    private static int wrong = 0;
-
-    private static void due(String call, int got, int want) {
-        if (got != want) {
-            wrong++;
-            System.out.println(call + " answered " + got + ", due is " + want);
-        }
-    }
-
-    /**
-     * Four items A, B, C, D, capacity 12, both budgets 1. Protected weights and profits of all choices:
-     * 0: 0/0, A: 8/6, B: 7/8, AB: 12/14, C: 3/0, AC: 11/10, BC: 10/8, ABC: 15/18,
-     * D: 10/9, AD: 17/16, BD: 16/17, ABD: 21/24, CD: 13/10, ACD: 20/20, BCD: 19/18, ABCD: 24/28.
-     */
-    private static RobustPacking four() {
-        RobustPacking x = new RobustPacking();
-        x.add(10, 5, 3, 4);
-        x.add(8, 4, 3, 0);
-        x.add(6, 3, 0, 6);
-        x.add(10, 9, 1, 1);
-        x.rule(0, 12);
-        x.rule(1, 1);
-        x.rule(2, 1);
-        return x;
-    }
-
-    private static RobustPacking equalOnes(int number) {
-        RobustPacking x = new RobustPacking();
-        for (int i = 0; i < number; i++) {
-            x.add(5, 2, 0, 0);
-        }
-        return x;
-    }
-
-    private static long pack(String text) {
-        long characters = 0;
-        for (int i = 0; i < text.length(); i++) {
-            characters = characters << 8 | text.charAt(i);
-        }
-        return characters;
-    }
-
-    private static void write(RobustPacking x, String text) {
-        for (int at = 0; at < text.length(); at += 8) {
-            x.put(pack(text.substring(at, Math.min(at + 8, text.length()))));
-        }
-    }
-
+public final class PromisesTest extends Due {
     private static void promise1() {
         RobustPacking x = new RobustPacking();
         int[] counts = {0, 1000, 0, 0, 0, 0, 0, 0};
@@ -942,9 +891,6 @@ public final class PromisesTest {
         promise30();
         twelveItems();
         removedItems();
-        System.out.println(wrong == 0 ? "all promises are as due" : wrong + " answers are not as due");
-        if (wrong != 0) {
-            System.exit(1);
-        }
+        end("all promises are as due");
     }
 }
