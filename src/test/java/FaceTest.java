@@ -8,8 +8,10 @@ import java.nio.file.Files;
 import java.nio.file.Path;
 import java.util.ArrayList;
 import java.util.Arrays;
+import java.util.HashMap;
 import java.util.HashSet;
 import java.util.List;
+import java.util.Map;
 import java.util.Set;
 import java.util.TreeSet;
 import java.util.regex.Matcher;
@@ -28,7 +30,14 @@ public final class FaceTest {
         "CAPACITY=0", "WEIGHT_BUDGET=1", "PROFIT_BUDGET=2", "PROFIT=0", "WEIGHT=1", "WEIGHT_DEVIATION=2",
         "PROFIT_DEVIATION=3", "GROUP=4"};
     private static final String[] BANNED = {"\\bthrow\\b", "\\bthrows\\b", "\\btry\\b", "\\bcatch\\b", "\\bsynchronized\\b",
-        "\\bassert\\b", "->", "::", "\\bhashCode\\b", "\\bimport\\b", "\\bpackage\\b", "Exact\\b", "\\bvar\\b", "MAX_VALUE", "MIN_VALUE", "\"", "\\bstatic\\s*\\{"};
+        "\\bassert\\b", "->", "::", "\\bhashCode\\b", "\\bimport\\b", "\\bpackage\\b", "Exact\\b", "\\bvar\\b", "MAX_VALUE",
+        "MIN_VALUE", "\"", "\\bstatic\\s*\\{", "\\bfloat\\b", "\\bdouble\\b", "\\[\\]\\[\\]\\[", "while \\(true", "for \\(;;",
+        "\\bnative\\b", "\\bvolatile\\b"};
+    /** What the class uses of the library; LANGUAGE.md allows more. */
+    private static final Set<String> LIBRARY = Set.of("Math.max", "Math.min", "Integer.bitCount", "System.arraycopy");
+    private static final int MOST_CALLS_DEEP = 8;
+    private static final Pattern METHOD = Pattern.compile(
+            "\n( {4}| {8})(?:public |private |static )*(?:int|boolean|void) (\\w+)\\([^)]*\\) \\{\\n(.*?)\n\\1\\}", Pattern.DOTALL);
     private static final Set<String> NAMES = new HashSet<>();
     private static int wrong = 0;
 
@@ -104,6 +113,8 @@ public final class FaceTest {
             Matcher matcher = Pattern.compile(banned).matcher(code);
             check(!matcher.find(), "the code is without " + banned);
         }
+        checkLibrary(code);
+        checkDepth(code);
         int start = -1;
         String[] lines = source.split("\n");
         for (int i = 0; i < lines.length; i++) {
@@ -114,6 +125,42 @@ public final class FaceTest {
                 start = -1;
             }
         }
+    }
+
+    /** Names that begin with a capital and go on in small letters are classes: our own, or one of the library. */
+    private static void checkLibrary(String code) {
+        Set<String> own = new HashSet<>(Set.of("RobustPacking"));
+        for (Class<?> nested : RobustPacking.class.getDeclaredClasses()) {
+            own.add(nested.getSimpleName());
+        }
+        Matcher name = Pattern.compile("\\b([A-Z]\\w*[a-z]\\w*)(\\.\\w+)?").matcher(code);
+        while (name.find()) {
+            check(own.contains(name.group(1)) || LIBRARY.contains(name.group()), name.group() + " is allowed");
+        }
+    }
+
+    /** Methods are told apart by their names alone, which can only make the calls look deeper than they are. */
+    private static void checkDepth(String code) {
+        Map<String, String> bodies = new HashMap<>();
+        Matcher method = METHOD.matcher(code);
+        while (method.find()) {
+            bodies.merge(method.group(2), method.group(3), String::concat);
+        }
+        check(bodies.keySet().containsAll(NAMES), "every method is found in the source");
+        for (String name : bodies.keySet()) {
+            check(depth(name, bodies, 1) <= MOST_CALLS_DEEP, name + " goes at most " + MOST_CALLS_DEEP + " calls deep");
+        }
+    }
+
+    private static int depth(String name, Map<String, String> bodies, int above) {
+        int deepest = above;
+        Matcher called = Pattern.compile("\\b(\\w+)\\(").matcher(bodies.get(name));
+        while (called.find() && deepest <= MOST_CALLS_DEEP) {
+            if (bodies.containsKey(called.group(1))) {
+                deepest = Math.max(deepest, depth(called.group(1), bodies, above + 1));
+            }
+        }
+        return deepest;
     }
 
     public static void main(String[] args) throws Exception {
