@@ -1,4 +1,5 @@
 import java.io.IOException;
+import java.lang.reflect.Array;
 import java.lang.reflect.Constructor;
 import java.lang.reflect.Field;
 import java.lang.reflect.Method;
@@ -8,8 +9,10 @@ import java.nio.file.Files;
 import java.nio.file.Path;
 import java.util.ArrayList;
 import java.util.Arrays;
+import java.util.Collections;
 import java.util.HashMap;
 import java.util.HashSet;
+import java.util.IdentityHashMap;
 import java.util.List;
 import java.util.Map;
 import java.util.Set;
@@ -36,6 +39,9 @@ public final class FaceTest {
     /** What the class uses of the library; LANGUAGE.md allows more. */
     private static final Set<String> LIBRARY = Set.of("Math.max", "Math.min", "Integer.bitCount", "System.arraycopy");
     private static final int MOST_CALLS_DEEP = 8;
+    /** All objects of a run share some 7.3 million fields and elements; one planner takes less than a hundredth of it. */
+    private static final int MOST_ROOM = 50000;
+    private static final int MOST_OBJECTS = 300;
     private static final Pattern METHOD = Pattern.compile(
             "\n( {4}| {8})(?:public |private |static )*(?:int|boolean|void) (\\w+)\\([^)]*\\) \\{\\n(.*?)\n\\1\\}", Pattern.DOTALL);
     private static final Set<String> NAMES = new HashSet<>();
@@ -148,6 +154,7 @@ public final class FaceTest {
         }
         check(bodies.keySet().containsAll(NAMES), "every method is found in the source");
         for (String name : bodies.keySet()) {
+            check(!Pattern.compile("\\bnew\\b").matcher(bodies.get(name)).find(), name + " makes no object: constructors do");
             check(depth(name, bodies, 1) <= MOST_CALLS_DEEP, name + " goes at most " + MOST_CALLS_DEEP + " calls deep");
         }
     }
@@ -163,6 +170,42 @@ public final class FaceTest {
         return deepest;
     }
 
+    /** Counts the objects, and their fields and elements, that a planner holds. */
+    private static int[] roomOf(Object held, Set<Object> seen) throws IllegalAccessException {
+        int[] room = {0, 0};
+        if (held == null || !seen.add(held)) {
+            return room;
+        }
+        room[0] = 1;
+        if (held.getClass().isArray()) {
+            int length = Array.getLength(held);
+            room[1] = length;
+            for (int i = 0; i < length && !held.getClass().getComponentType().isPrimitive(); i++) {
+                addRoom(room, roomOf(Array.get(held, i), seen));
+            }
+            return room;
+        }
+        for (Field field : held.getClass().getDeclaredFields()) {
+            if (!Modifier.isStatic(field.getModifiers())) {
+                room[1]++;
+                field.setAccessible(true);
+                addRoom(room, field.getType().isPrimitive() ? new int[] {0, 0} : roomOf(field.get(held), seen));
+            }
+        }
+        return room;
+    }
+
+    private static void addRoom(int[] room, int[] more) {
+        room[0] += more[0];
+        room[1] += more[1];
+    }
+
+    private static void checkRoom() throws IllegalAccessException {
+        int[] room = roomOf(new RobustPacking(), Collections.newSetFromMap(new IdentityHashMap<>()));
+        check(room[0] <= MOST_OBJECTS, "a planner is at most " + MOST_OBJECTS + " objects, not " + room[0]);
+        check(room[1] <= MOST_ROOM, "a planner takes at most " + MOST_ROOM + " fields and elements, not " + room[1]);
+    }
+
     public static void main(String[] args) throws Exception {
         for (String method : METHODS) {
             NAMES.add(method.substring(0, method.indexOf('(')));
@@ -171,6 +214,7 @@ public final class FaceTest {
         checkConstants();
         checkClasses();
         checkSource();
+        checkRoom();
         System.out.println(wrong == 0 ? "the face is as due" : wrong + " things are not as due");
         if (wrong != 0) {
             System.exit(1);
